@@ -284,7 +284,7 @@ public final class GuardsLookLeft {
             return BAD;
         }
         if (what == 3) {
-            return worthUnseen();
+            return worthUnseen(seenNow());
         }
         int greatest = gaps.greatest(seenNow(), palace.floor());
         switch (what) {
@@ -309,8 +309,7 @@ public final class GuardsLookLeft {
         return NONE;
     }
 
-    private int worthUnseen() {
-        long[] seen = seenNow();
+    private int worthUnseen(long[] seen) {
         int sum = 0;
         for (int t = 0; t < SECONDS; t++) {
             long lone = palace.floor() & ~seen[t];

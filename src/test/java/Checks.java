@@ -1,0 +1,64 @@
+/** Counts the answers that are not as due; and what several tests begin with. */
+final class Checks {
+    static final int NONE = -1, BAD = -2, STATE = -3, FULL = -4, NO_SUCH = -5, WRONG = -7;
+    static final int NOTHING = -11, OUTSIDE = -12, UNLIKE = -13, BELOW = -14;
+    static final long NO = -4611686018427387904L, ALL = (1L << 36) - 1;
+    static final int ALL_SECONDS = (1 << 24) - 1;
+    /** What no number may be. */
+    static final int[] WILD = {Integer.MIN_VALUE, -1000, -1, 1000, 1 << 30, Integer.MAX_VALUE};
+
+    private int wrong;
+    private int asked;
+
+    void due(String what, long got, long want) {
+        asked++;
+        if (got != want) {
+            wrong++;
+            System.out.println(what + ": " + got + ", due is " + want);
+        }
+    }
+
+    void end(String name) {
+        System.out.println(name + ": " + asked + " answers, " + wrong + " not as due");
+        if (wrong != 0) {
+            System.exit(1);
+        }
+    }
+
+    static long bits(int... cells) {
+        long set = 0;
+        for (int c : cells) {
+            set |= 1L << c;
+        }
+        return set;
+    }
+
+    static void feed(GuardsLookLeft x, String text) {
+        for (int i = 0; i < text.length(); i++) {
+            x.feed(1, text.charAt(i), 0, 0, 0, 0);
+        }
+    }
+
+    /** Feeds a text and has it read. */
+    static int text(GuardsLookLeft x, String text) {
+        feed(x, text);
+        return x.text();
+    }
+
+    /** An object with a law of its own. */
+    static GuardsLookLeft withLaw(String law) {
+        GuardsLookLeft x = new GuardsLookLeft();
+        x.force(text(x, law));
+        return x;
+    }
+
+    /** One floor cell (2), and guards who stand in the wall at 8 and look at it from their second MORE on. */
+    static GuardsLookLeft cellWithPacers(int... mores) {
+        GuardsLookLeft x = new GuardsLookLeft();
+        x.lay(0, ALL & ~bits(2));
+        for (int more : mores) {
+            x.guard(5, 8, 30, more);
+        }
+        return x;
+    }
+}
