@@ -117,6 +117,9 @@ public final class GuardTest {
             y.guard(0, homes[way], 10 * way + 5, 0);
             stands(k, y, 7, homes[way], way);
         }
+        GuardsLookLeft stays = new GuardsLookLeft();
+        stays.guard(0, 2, 25, 0);
+        stands(k, stays, 3, 2, 2);
         GuardsLookLeft up = new GuardsLookLeft();
         up.guard(0, 35, 25, 0);
         stands(k, up, 4, 11, 2);

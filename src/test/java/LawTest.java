@@ -89,7 +89,8 @@ public final class LawTest {
             "reach 3 ; sees 1 ; worth 1 ;  @;", "reach 3 ; sees 1 ; worth 1 ; @reach 3 ; sees 1 ; worth 1 ;",
             "reach 3 ; sees 1 ; worth 1 ; @12345", "reach 3 ; sees 1 ; worth 1 ; @!",
             "reach 3 ; sees 1 ; \n \n@", "reach @12345 ;", "reach @00001 ;", "reach 1 + @10000000000000000000000 ;",
-            "reach @fars ;", "reach @fa ;", "reach @reachs ;", "@reachfar ;", "reach far@2 ;", "reach 2@far ;",
+            "reach @fars ;", "reach @fa ;", "reach @farz ;", "reach @xar ;", "reach @fax ;", "@teach 1", "@xeach", "reach 1 @xr 1",
+            "reach 1 @worth 2 ;", "reach 1 @sees 2 ;", "reach 1 ; @or 1 ;", "reach 1 ; sees 1 ; @and 1 ;", "@not 1 ;", "reach @reachs ;", "@reachfar ;", "reach far@2 ;", "reach 2@far ;",
             "reach 1 @, ;", "reach @A ;", "reach @fAr", "reach@\t3 ;", "reach@\r3 ;", "reach 1 @> 2 ;", "reach 1 @/ 2 ;",
             "reach 1 @: 2", "reach 1 @' 2", "reach 1 @\u00e9 2", "reach 1 @\0 2", "reach 1 @` 2", "reach 1 @{ 2",
             "reach 1 < 2 @< 3 ;", "reach 1 = 2 @= 3 ;", "reach 1 < 2 @= 3 ;", "reach 1 < @< 2 ;", "reach 1 < @not 1 ;",
@@ -112,6 +113,15 @@ public final class LawTest {
         GuardsLookLeft x = new GuardsLookLeft();
         String full = "reach 1" + " ".repeat(153);
         k.due("7 fault at the end of a full tape", Checks.text(x, full), -260);
+        for (String last : new String[] {"-", "9", "far", "fa", "reach"}) {
+            String ending = "reach 1 + " + " ".repeat(150 - last.length()) + last;
+            int place = last.equals("fa") || last.equals("reach") ? 158 - 3 * (last.length() / 5) : 160;
+            k.due("7 a full tape that ends in " + last, Checks.text(x, ending), -100 - place);
+        }
+        k.due("7 too long", Checks.text(x, "reach 12345"), -106);
+        k.due("7 not by what an earlier tape had behind it", Checks.text(x, "reach 12"), -108);
+        k.due("7 a word", Checks.text(x, "reach farther"), -106);
+        k.due("7 nor a word", Checks.text(x, "reach far"), -109);
     }
 
     private static void fullOfTexts(Checks k) {
@@ -240,5 +250,9 @@ public final class LawTest {
         GuardsLookLeft y = Checks.withLaw("reach 1 ; sees 1 ; worth cell ;");
         k.due("9 cell 99", y.asks(2, 0, 0, 0, 999), 99);
         k.due("9 cell 0", y.asks(2, 0, 0, 0, 900), 0);
+        GuardsLookLeft n = Checks.withLaw("reach 1 ; sees 1 ; worth number * 10 + lit ;");
+        k.due("9 number", n.asks(2, 0, 0, 0, 600), 60);
+        k.due("9 number below", n.asks(2, 0, 0, 0, 599), 50);
+        k.due("9 lit of far and lit", n.asks(2, 90, 0, 0, 0), 0);
     }
 }

@@ -34,6 +34,12 @@ public final class LotTest {
         k.due("33 nothing changed", x.guardTold(0, 0) + x.guardTold(1, 0) + x.guardTold(2, 0), 0);
         k.due("33 as before", x.worst(0), 8);
         k.due("33 no guards", new GuardsLookLeft().drawn(0), 24);
+        GuardsLookLeft nobody = new GuardsLookLeft();
+        nobody.lay(0, Checks.ALL & ~1);
+        k.due("33 nobody", nobody.drawn(5), 24);
+        GuardsLookLeft five = Checks.cellWithPacers(0, 0, 0, 0, 0);
+        five.force(Checks.text(five, "reach 1 ; sees number = 4 ; worth 1 ;"));
+        k.due("33 the last of five", five.drawn(5), 0);
         k.due("33 -1", x.drawn(-1), Checks.BAD);
         k.due("33 100000", x.drawn(100000), Checks.BAD);
         k.due("33 least", x.drawn(Integer.MIN_VALUE), Checks.BAD);
@@ -53,7 +59,7 @@ public final class LotTest {
     private static void mean(Checks k) {
         GuardsLookLeft x = Checks.cellWithPacers(9, 9, 8);
         for (int seeds = 1; seeds <= 12; seeds++) {
-            for (int seed : new int[] {0, 17, 99999}) {
+            for (int seed : new int[] {0, 1, 2, 3, 4, 5, 6, 7, 8, 9, 10, 11, 12, 17, 99998, 99999}) {
                 int sum = 0;
                 for (int i = 0; i < seeds; i++) {
                     sum += byHand(seed + i, 9, 9, 8);
@@ -139,5 +145,11 @@ public final class LotTest {
         y.guard(0, 0, 0, 0);
         k.due("36 to nothing", y.back(), 0);
         k.due("36 nobody", y.watched(0), 0);
+        GuardsLookLeft z = new GuardsLookLeft();
+        z.image();
+        z.guard(1, 0, 10, 0);
+        k.due("36 somebody", z.watched(0), Checks.bits(0, 6));
+        z.back();
+        k.due("36 nobody then", z.watched(0), 0);
     }
 }

@@ -42,6 +42,14 @@ public final class SeenTest {
         GuardsLookLeft z = Checks.withLaw("reach 2 ; sees 1 ; worth 1 ;");
         z.guard(1, 0, 10, 0);
         k.due("14 the reach", z.sees(0, 0), Checks.bits(6, 12));
+        GuardsLookLeft[] outs = new GuardsLookLeft[4];
+        long[] due = {Checks.bits(20, 26, 32), Checks.bits(15, 16, 17), Checks.bits(8, 2), Checks.bits(13, 12)};
+        for (int way = 0; way < 4; way++) {
+            outs[way] = Checks.withLaw(ALL_NINE);
+            outs[way].guard(1, 14, 10 * ((way + 1) % 4), 0);
+            k.due("14 till outside, way " + way, outs[way].sees(0, 0), due[way]);
+            k.due("15 till outside, way " + way, outs[way].watched(0), due[way] | Checks.bits(14));
+        }
         GuardsLookLeft none = Checks.withLaw("reach 0 ; sees 1 ; worth 1 ;");
         none.guard(1, 0, 10, 0);
         k.due("14 no reach", none.sees(0, 0), 0);

@@ -34,6 +34,14 @@ public final class ShiftTest {
         law.force(Checks.text(law, "reach 1 ; sees second < 12 ; worth 1 ;"));
         k.due("24 the law tells the second, not his own", law.shift(0, 1), 12);
         k.due("24 the first to be awake then", law.shift(0, 0), 9);
+        GuardsLookLeft last = Checks.cellWithPacers(9);
+        last.force(Checks.text(last, "reach 1 ; sees second = 0 or second = 10 or second = 17 ; worth 1 ;"));
+        k.due("24 the last", last.shift(0, 0), 23);
+        k.due("24 the last, that one", last.shift(0, 1), 9);
+        GuardsLookLeft never = new GuardsLookLeft();
+        never.guard(0, 0, 15, 0);
+        k.due("24 of 24 the first", never.shift(0, 0), 0);
+        k.due("24 of 24, that one", never.shift(0, 1), 24);
         k.due("24 no such", x.shift(2, 9), Checks.NO_SUCH);
         k.due("24 what", x.shift(0, 2), Checks.WRONG);
         for (int v : Checks.WILD) {
@@ -105,6 +113,13 @@ public final class ShiftTest {
         k.due("27 a later one alone", y.fewest(4, 3, 0), 4);
         k.due("27 a later one alone: one", y.fewest(4, 3, 1), 1);
         k.due("27 of three sets of two the least", y.fewest(4, 0, 0), 3);
+        GuardsLookLeft five = Checks.withLaw("reach 0 ; sees 0 ; worth 1 ;");
+        for (int g = 0; g < 5; g++) {
+            five.guard(1, 7 * g, 0, 0);
+        }
+        k.due("27 all five", five.fewest(Checks.bits(0, 7, 14, 21, 28), 0, 0), 31);
+        k.due("27 five", five.fewest(Checks.bits(0, 7, 14, 21, 28), 23, 1), 5);
+        k.due("27 two of five", five.fewest(Checks.bits(7, 28), 23, 0), 18);
         k.due("27 no such cells", x.fewest(-1L, 99, 9), Checks.NO_SUCH);
         k.due("27 cell 36", x.fewest(1L << 36, 0, 0), Checks.NO_SUCH);
         k.due("27 k", x.fewest(4, 25, 0), Checks.WRONG);

@@ -62,6 +62,10 @@ public final class ThiefTest {
         k.due("21 by then 2 is seen", x.hides(0, 0, 6), 59);
         k.due("21 seen at first", x.hides(2, 5, 3), 0);
         k.due("21 seen at first, at first", x.hides(2, 5, 0), 0);
+        for (int i = 0; i <= 24; i++) {
+            x.hides(0, 3, 24);
+            k.due("21 seen at first, whatever was asked before", x.hides(2, 5, i), 0);
+        }
         GuardsLookLeft z = corridor(5, 1);
         k.due("19 only at 0, ahead of it", z.soon(1, 5, 23), 4);
         k.due("19 not by 24", z.soon(0, 5, 23), -1);
@@ -143,6 +147,26 @@ public final class ThiefTest {
         k.due("23 the fewest", v.more(0, 5, 2), 0);
         k.due("23 fewer, if not none", v.more(0, 0, 0), 0);
         k.due("23 how many then", v.more(0, 0, 2), 21);
+        GuardsLookLeft first = Checks.withLaw("reach 1 ; sees lit and second = 0 ; worth 1 ;");
+        first.lay(0, Checks.ALL & ~1);
+        first.guard(1, 6, 30, 0);
+        k.due("23 at second 0 alone", first.more(0, 0, 0), 0);
+        k.due("23 at second 0 alone, how many then", first.more(0, 0, 2), 23);
+        GuardsLookLeft walks = Checks.withLaw("reach 1 ; sees lit ; worth 1 ;");
+        walks.lay(0, Checks.ALL & ~63 & ~Checks.bits(6, 7, 8, 9, 10, 11));
+        walks.guard(0, 6, 15, 0);
+        walks.put(0, 0, 1);
+        k.due("23 who walks back by it", walks.more(3, 3, 0), 3);
+        k.due("23 who walks back by it at 7 and 17, how many then", walks.more(3, 3, 2), 22);
+        k.due("23 at the end of his beat", walks.more(5, 5, 0), 5);
+        GuardsLookLeft five = Checks.cellWithPacers(0, 0, 0, 0, 0);
+        five.force(Checks.text(five, "reach 1 ; sees lit and number = 4 and second < 5 ; worth 1 ;"));
+        k.due("23 the last of five", five.more(2, 2, 0), 2);
+        k.due("23 the last of five, how many then", five.more(2, 2, 2), 19);
+        GuardsLookLeft nobody = new GuardsLookLeft();
+        nobody.lay(0, Checks.ALL & ~1);
+        k.due("23 nobody", nobody.more(0, 0, 0), -1);
+        k.due("23 nobody, how many now", nobody.more(0, 0, 2), 24);
     }
 
     private static void refused(Checks k) {

@@ -81,6 +81,15 @@ public final class ToldTest {
         k.due("30 which stays", x.count(5), 2);
         x.film(0, 2);
         k.due("30 never seen", x.laws(0, 2), 4 | 8);
+        GuardsLookLeft nobody = new GuardsLookLeft();
+        nobody.sheet(0, 0, 24);
+        k.due("30 nobody", nobody.laws(0, 0), 1);
+        GuardsLookLeft five = Checks.cellWithPacers(0, 0, 0, 0, 0);
+        five.force(Checks.text(five, "reach 1 ; sees number = 4 ; worth 1 ;"));
+        five.film(0, 2);
+        k.due("30 the last of five", five.laws(0, 2), 3);
+        five.sheet(0, 0, 24);
+        k.due("30 the last of five sees it", five.laws(0, 2), 0);
         for (int v : Checks.WILD) {
             k.due("30 wild sheet", x.laws(v, 0), Checks.BAD);
             k.due("30 wild cell", x.laws(0, v), Checks.NO_SUCH);
