@@ -7,8 +7,27 @@ final class Checks {
     /** What no number may be. */
     static final int[] WILD = {Integer.MIN_VALUE, -1000, -1, 1000, 1 << 30, Integer.MAX_VALUE};
 
+    /** A test that takes longer, in milliseconds, has come to a call that doesn't end. */
+    private static final int LONGEST_TEST = 600_000;
+
     private int wrong;
     private int asked;
+
+    Checks() {
+        Thread watch = new Thread(Checks::endLate);
+        watch.setDaemon(true);
+        watch.start();
+    }
+
+    private static void endLate() {
+        try {
+            Thread.sleep(LONGEST_TEST);
+        } catch (InterruptedException e) {
+            return;
+        }
+        System.out.println("a call doesn't end");
+        Runtime.getRuntime().halt(1);
+    }
 
     void due(String what, long got, long want) {
         asked++;

