@@ -53,8 +53,13 @@ final class Checks {
     }
 
     static void feed(GuardsLookLeft x, String text) {
-        for (int i = 0; i < text.length(); i++) {
-            x.feed(1, text.charAt(i), 0, 0, 0, 0);
+        for (int i = 0; i < text.length(); i += 5) {
+            int[] five = new int[5];
+            int n = Math.min(5, text.length() - i);
+            for (int j = 0; j < n; j++) {
+                five[j] = text.charAt(i + j);
+            }
+            x.feed(n, five[0], five[1], five[2], five[3], five[4]);
         }
     }
 

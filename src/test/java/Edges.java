@@ -94,6 +94,10 @@ final class Edges {
         checks.due(sentence, told == null ? 0 : 1, 1);
     }
 
+    void due(String sentence, long got, long due) {
+        checks.due(sentence, got, due);
+    }
+
     private void compare(String sentence, long[] got, long[] due) {
         String other = Everything.firstOther(got, due);
         if (other != null) System.out.println(other);

@@ -11,6 +11,7 @@ public final class LawEdgesTest {
     public static void main(String[] args) {
         Edges e = new Edges("LawEdgesTest");
         text(e);
+        afterOthers(e);
         full(e);
         tokens(e);
         everyByte(e);
@@ -66,6 +67,25 @@ public final class LawEdgesTest {
         e.same("7: what is seen stays", Edges.with(RICH, "watched(0)", "text()"), Edges.with(RICH, "text()"));
     }
 
+    /** What an earlier tape had, or a FAULT had read, does not matter. */
+    private static void afterOthers(Edges e) {
+        e.answers("7: THE TAPE ends where it ends: a NUMBER", NEW, "says(reach 12345) -> -106", "says(reach 12) -> -108", "says(reach 1) -> -107");
+        e.answers("7: THE TAPE ends where it ends: a WORD", NEW, "says(reach farther) -> -106", "says(reach far) -> -109", "says(reach fa) -> -106");
+        e.answers("7: THE TAPE ends where it ends: a NUMBER, a WORD at the end of a full one", NEW, "says(reach 1 +" + " ".repeat(150) + "9) -> -260", "says(reach 1 +" + " ".repeat(148) + "far) -> -260",
+            "says(reach 1 +" + " ".repeat(147) + "1234) -> -260", "says(reach 1 +" + " ".repeat(149) + "fa) -> -258");
+        Called x = new Called(NEW);
+        String ones = "+1".repeat(65);
+        for (int t = 1; t < 6; t++) {
+            x.call("says(reach 1" + ones + " ; sees)");
+            e.due("7: long TEXTS, and FAULTS of long ones: its number", x.call("says(reach " + t + ";sees 1;worth " + t + ones + ";)"), t);
+        }
+        for (int t = 1; t < 6; t++) {
+            x.call("force(" + t + ")");
+            e.due("7: each of five long TEXTS tells its own reach", x.call("asks(0, 0, 0, 0, 0)"), t);
+            e.due("7: each of five long TEXTS tells its own worth", x.call("asks(2, 0, 0, 0, 0)"), t + 65);
+        }
+    }
+
     private static void full(Edges e) {
         e.answers("7: six TEXTS, with TEXT 0", NEW, "says(reach 1" + REST + ") -> 1", "says(reach 2" + REST + ") -> 2",
             "says(reach 3" + REST + ") -> 3", "says(reach 4" + REST + ") -> 4", "says(reach 5" + REST + ") -> 5", "count(4) -> 6",
@@ -109,13 +129,16 @@ public final class LawEdgesTest {
             boolean joins = "+-*<=".indexOf(sign) >= 0;
             String told = "a byte that begins none: " + b;
             if (b == '@') {
-                e.answers(told, NEW, "says(@) -> -100", "says(reach @) -> -106", "says(reach 1 @) -> -108", "says(reach 1@) -> -107");
+                e.answers(told, NEW, "says(@) -> -100", "says(reach @) -> -106", "says(reach 1 @) -> -108", "says(reach 1@) -> -107",
+                    "says(reach far@) -> -109");
                 continue;
             }
             fault(e, told + ", at first", blank ? sign + "@" : "@" + sign);
             fault(e, told + ", for an E", blank || digit || b == '(' || b == '-' ? "reach " + sign + "@" : "reach @" + sign);
             fault(e, told + ", behind an E", blank || joins || b == ';' ? "reach 1 " + sign + "@" : "reach 1 @" + sign);
             fault(e, told + ", close behind a NUMBER", blank || joins || digit || b == ';' ? "reach 1" + sign + "@" : "reach 1@" + sign);
+            boolean letter = b >= 'a' && b <= 'z';
+            fault(e, told + ", close behind a WORD", letter ? "reach @far" + sign : blank || joins || b == ';' ? "reach far" + sign + "@" : "reach far@" + sign);
             fault(e, told + ", at the end", blank ? "reach 1 ; sees 1 ; worth 1 " + sign + "@" : b == ';' ? GOOD + "@;"
                 : GOOD + "@" + sign);
         }

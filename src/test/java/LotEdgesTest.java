@@ -57,6 +57,7 @@ public final class LotEdgesTest {
 
     private static void drawn(Edges e) {
         e.answers("33: no GUARDS", NEW, "drawn(0) -> 24", "drawn(99999) -> 24");
+        e.answers("33: of the first, the last CELL", List.of("lay(0, ALL-{0})"), "drawn(0) -> 24", "mean(0, 3, 0) -> 24", "lay(0, ALL-{35}) -> ALL-{0}", "drawn(0) -> 24", "mean(0, 3, 0) -> 24");
         e.answers("33: GAPS of no CELLS", Edges.with(WALLED, "guard(5, 8, 30, 7)"), "drawn(0) -> 0", "drawn(99999) -> 0");
         e.answers("33: one GUARD's GAP is the same by each", pacers(7), "drawn(0) -> 7", "drawn(1) -> 7", "drawn(99999) -> 7");
         for (int seed : new int[] {0, 1, 2, 3, 44487, 44488, 44489, 50000, 88977, 88978, 99998, LAST_SEED}) {

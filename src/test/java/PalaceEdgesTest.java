@@ -7,6 +7,7 @@ public final class PalaceEdgesTest {
     public static void main(String[] args) {
         Edges e = new Edges("PalaceEdgesTest");
         newObject(e);
+        mostCalls(e);
         lay(e);
         laid(e);
         put(e);
@@ -36,6 +37,14 @@ public final class PalaceEdgesTest {
         Everything.of(FULL);
         Everything.of(RICH);
         if (Everything.firstOther(before, Everything.of(NEW)) != null) throw new IllegalStateException("1: objects share something");
+    }
+
+    /** An object answers 512 calls; here the dearest of them, all but the first. */
+    private static void mostCalls(Edges e) {
+        String[] dear = {"more(0, 35, 0) -> -1", "mean(99999, 12, 0) -> 24", "bribes(ALL, 23) -> 0", "worst(3) -> 720", "shift(2, 1) -> 24", "hides(35, 0, 24) -> ALL-{6 7 13 14 20 21}"};
+        String[] rows = new String[507];
+        for (int i = 0; i < rows.length; i++) rows[i] = dear[i % dear.length];
+        e.answers("an object is used for 512 calls", List.of("guard(1, 7, 0, 0)", "guard(1, 14, 0, 0)", "guard(1, 21, 0, 0)", "says(!)"), rows);
     }
 
     private static void lay(Edges e) {

@@ -19,6 +19,7 @@ public final class SeenEdgesTest {
         looks(e);
         names(e);
         watched(e);
+        follows(e);
         aloneAndUnseen(e);
         gaps(e);
         worst(e);
@@ -149,6 +150,31 @@ public final class SeenEdgesTest {
         e.answers("15: where he stands then", List.of("says(reach 0 ; sees 1 ; worth 1 ;)", "force(1)", "guard(0, 0, 15, 0)"), "watched(0) -> {0}", "watched(5) -> {5}",
             "watched(10) -> {0}", "watched(23) -> {3}");
         e.answers("15: by the whole way round", List.of("guard(0, 0, 15, 0)", "set(0, 0, 23)"), "watched(0) -> {3 9}", "watched(1) -> {0 6}");
+    }
+
+    /** What is seen follows each call that changes something, whatever was asked before. */
+    private static void follows(Edges e) {
+        List<String> one = List.of("guard(1, 14, 10, 0)", "watched(0)");
+        e.answers("15: behind lay()", one, "lay(0, {20}) -> 0", "watched(0) -> {14}", "lay(0, 0) -> {20}", "watched(0) -> {14 20}", "lay(1, {26}) -> 0", "watched(0) -> {14 20 26}", "lay(2, {20}) -> 0",
+            "watched(0) -> {14 20}", "lay(1, {19}) -> {26}", "watched(0) -> {14 20 19}", "lay(2, 0) -> {20}", "watched(0) -> {14 20}");
+        e.answers("15: behind put()", one, "put(20, 0, 1) -> 0", "watched(0) -> {14}", "put(20, 0, 0) -> 1", "watched(0) -> {14 20}", "put(26, 1, 1) -> 0", "watched(0) -> {14 20 26}", "put(20, 2, 1) -> 0",
+            "watched(0) -> {14 20}", "put(19, 1, 1) -> 0", "watched(0) -> {14 20 19}", "put(20, 2, 0) -> 1", "watched(0) -> {14 20 26}");
+        e.answers("15: behind force()", one, "says(reach 0 ; sees 1 ; worth 1 ;) -> 1", "watched(0) -> {14 20}", "force(1) -> 0", "watched(0) -> {14}", "force(0) -> 1", "watched(0) -> {14 20}");
+        e.answers("15: behind guard()", one, "guard(1, 0, 10, 0) -> 1", "watched(0) -> {14 20 0 6}", "guard(1, 35, 0, 0) -> 2", "watched(0) -> {14 20 0 6 35 34}");
+        e.answers("15: behind set()", List.of("guard(0, 14, 10, 0)", "watched(0)"), "set(0, 0, 1) -> 0", "watched(0) -> {14 20}", "set(0, 1, 1) -> 0", "watched(0) -> {15 9}", "set(0, 0, 0) -> 1",
+            "watched(0) -> {14 20}", "set(0, 0, 3) -> 0", "watched(0) -> {15 9}", "set(0, 1, 0) -> 1", "watched(0) -> {14 20}");
+        e.answers("15: behind back()", Edges.with(one, "image()", "put(20, 0, 1)", "watched(0)"), "back() -> 1", "watched(0) -> {14 20}", "guard(1, 0, 10, 0) -> 1", "watched(0) -> {14 20 0 6}", "back() -> 1",
+            "watched(0) -> {14 20}");
+        e.answers("15: behind guardsBy()", Edges.with(one, "sheet(0, 2, 4)", "cell(0, 0, 1)", "cell(0, 2, 10)", "watched(0)"), "guardsBy(0, 2, 0, 1) -> 1", "watched(0) -> {14 20 0 6}");
+        e.answers("15: behind text() nothing follows", one, "says(reach 0 ; sees 1 ; worth 1 ;) -> 1", "watched(0) -> {14 20}");
+        e.answers("16 .. 18: likewise", List.of("lay(0, ALL-{2})", "guard(5, 8, 30, 7)", "worst(0)"), "alone(2) -> 127", "set(0, 0, 7) -> 0", "alone(2) -> " + (127 << 17), "unseen(2) -> 7", "guard(5, 8, 30, 3) -> 1",
+            "alone(2) -> 0", "unseen(2) -> 0", "worst(0) -> 0", "worst(3) -> 0", "lay(0, 0) -> ALL-{2}", "worst(0) -> 24", "worst(1) -> 0");
+        e.answers("19 .. 22: likewise", List.of("lay(0, ALL-{2 3})", "soon(2, 3, 0)"), "soon(2, 3, 0) -> 1", "guard(1, 8, 30, 0) -> 0", "soon(2, 3, 0) -> -1", "path(2, 3, 0, 1) -> -1", "hides(2, 0, 0) -> 0", "when(2, 3) -> 0",
+            "set(0, 1, 1) -> 0", "when(2, 3) -> 0", "lay(0, ALL-{2 3 4}) -> ALL-{2 3}", "hides(3, 0, 1) -> {3 4}");
+        e.answers("24 .. 27: likewise", List.of("lay(0, ALL-{2})", "guard(5, 8, 30, 7)", "shift(0, 1)"), "holds({2}, 6) -> 0", "guard(5, 8, 30, 3) -> 1", "holds({2}, 6) -> 1", "bribes({2}, 6) -> 3", "fewest({2}, 6, 0) -> 2",
+            "shift(0, 1) -> 0", "set(1, 0, 12) -> 0", "shift(0, 0) -> 0", "holds({2}, 2) -> 1", "fewest({2}, 0, 0) -> 3");
+        e.answers("28 .. 31: likewise", List.of("lay(0, ALL-{2})", "guard(1, 8, 30, 0)", "film(0, 2)", "judge(0, 2)"), "put(2, 0, 1) -> 0", "judge(0, 2) -> 0", "which(0) -> {8}", "laws(0, 2) -> 0", "gone(0, 2) -> 0",
+            "put(2, 0, 0) -> 1", "judge(0, 2) -> -1", "which(0) -> {2 8}", "laws(0, 2) -> 1", "gone(0, 2) -> 1");
     }
 
     private static void aloneAndUnseen(Edges e) {

@@ -23,6 +23,7 @@ public final class ThiefEdgesTest {
         hides(e);
         when(e);
         more(e);
+        moreOfTwo(e);
         moreOfLikeOnes(e);
         moreOfNone(e);
         e.end();
@@ -183,6 +184,16 @@ public final class ThiefEdgesTest {
         e.answers("23: a LAMP where he stands", List.of("lay(0, ALL-{2 8})", "says(reach lit ; sees 1 ; worth 1 ;)", "force(1)", "guard(1, 8, 30, 0)"), "more(2, 2, 0) -> 8", "more(2, 2, 2) -> 0");
         e.answers("23: a MIRROR where he stands is none", List.of("lay(0, ALL-{14 20 26})", "says(reach 2 ; sees far = 2 ; worth 1 ;)", "force(1)", "guard(1, 14, 10, 0)"), "more(26, 26, 1) -> -1", "more(26, 26, 3) -> 0",
             "more(20, 20, 1) -> -1", "more(20, 20, 3) -> 24");
+    }
+
+    /** Who is not touched by the lamp, the mirror, sees on. */
+    private static void moreOfTwo(Edges e) {
+        List<String> two = List.of("lay(0, ALL-{0 1 2})", "says(reach 1+lit;sees number=0 and second<5 or number=1 and 9<second;worth 1;)", "force(1)", "guard(1, 8, 30, 0)", "guard(1, 0, 20, 0)");
+        e.answers("23: a LAMP: the others see as now", two, "when(2, 2) -> " + (Checks.ALL_SECONDS & ~31), "more(2, 2, 0) -> 0", "more(2, 2, 2) -> 5", "more(2, 2, 1) -> -1", "more(2, 2, 3) -> 19");
+        List<String> mirror = List.of("lay(0, ALL-{14 13 12})", "says(reach 9;sees number=1 and far=3 or number=0 and second<5;worth 1;)", "force(1)", "guard(1, 18, 30, 0)", "guard(1, 8, 10, 0)");
+        e.answers("23: a MIRROR: the others see as now", mirror, "when(12, 12) -> " + (Checks.ALL_SECONDS & ~31), "more(12, 12, 1) -> 14", "more(12, 12, 3) -> 0", "more(12, 12, 0) -> -1");
+        List<String> late = List.of("lay(0, ALL-{14 13 12})", "says(reach 9;sees number=1 and far=3 and 9<second or number=0 and second<5;worth 1;)", "force(1)", "guard(1, 18, 30, 0)", "guard(1, 8, 10, 0)");
+        e.answers("23: a MIRROR: the others see as now", late, "more(12, 12, 1) -> 14", "more(12, 12, 3) -> 5");
     }
 
     private static void moreOfLikeOnes(Edges e) {

@@ -115,6 +115,8 @@ public final class ToldEdgesTest {
         e.answers("30: six TEXTS", Edges.with(Edges.FULL, "sheet(0, 0, 24)"), "laws(0, 33) -> 63", "laws(0, 1) -> 3", "laws(0, 5) -> 0");
         e.answers("30: the last of six", List.of("lay(0, ALL-{2})", "guard(1, 8, 30, 0)", "says(reach 0;sees 1;worth 1;)", "says(reach 1;sees 0;worth 1;)", "says(reach 1;sees 2=3;worth 1;)",
             "says(reach -1;sees 1;worth 1;)", "says(reach 1;sees second<23;worth 1;)", "force(5)", "film(0, 2)", "force(0)"), "laws(0, 2) -> 32");
+        e.answers("30: of the first, the last CELL", Edges.with(Edges.FULL, "lay(0, ALL)", "film(0, 0)", "film(1, 35)"), "laws(0, 0) -> 63", "laws(1, 35) -> 63", "laws(1, 0) -> 0");
+        e.answers("30: of the first CELL, never SEEN", Edges.with(NEW, "sheet(0, 0, 24)", "guard(1, 14, 0, 0)"), "laws(0, 0) -> 1", "gone(0, 0) -> 3", "judge(0, 0) -> -1", "laws(0, 14) -> 0");
         e.answers("30: no GUARDS", Edges.with(NEW, "sheet(0, 0, 24)"), "laws(0, 35) -> 1");
         e.answers("30: none", Edges.with(NEW, "sheet(0, 0, 24)", "cell(0, 0, 1)"), "laws(0, 35) -> 0");
         e.changesNothing("30: what is asked changes nothing", Edges.with(three, "force(1)"), "laws(0, 2) -> 3", "laws(0, 35) -> 0");
